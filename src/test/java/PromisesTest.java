@@ -263,7 +263,7 @@ public final class PromisesTest {
     private static void promise7WriteLevels() {
         MusicBoxes x = new MusicBoxes();
         x.cut(0, LEVELS, 1);
-        for (int v : new int[] {0, 1, -1, 3, 8, -8, 60, 1234567, 7999999, 8000000, -7999999, -8000000}) {
+        for (int v : new int[] {0, 1, -1, 3, 8, -8, 60, 1234567, 4194303, 4194304, -4194305, 7999999, 8000000, -7999999, -8000000}) {
             granted(x, "write " + v, x.write(0, LEVELS, 0, v), 0);
             granted(x, "read of " + v, x.read(0, LEVELS, 0), bits((float) v / 8f));
         }
@@ -336,6 +336,12 @@ public final class PromisesTest {
         due("a million", x.read(0, LEVELS, 0), bits(1000000f));
         x.write(0, LEVELS, 0, 8001);
         refused(x, "an eighth over", x.turn(0, LEVELS, 0, 4000), MusicBoxes.BOUND);
+        x.write(0, LEVELS, 0, 5333336);
+        refused(x, "a half over", x.turn(0, LEVELS, 0, 6), MusicBoxes.BOUND);
+        refused(x, "a half under", x.turn(0, LEVELS, 0, -6), MusicBoxes.BOUND);
+        x.write(0, LEVELS, 0, 8000);
+        granted(x, "the greatest turn", x.turn(0, LEVELS, 0, 4000), 0);
+        due("a million", x.read(0, LEVELS, 0), bits(1000000f));
         x.write(0, LEVELS, 0, 7999999);
         float level = 7999999f / 8f;
         for (int v : new int[] {3, 3, 3, -1, 7, 7, 7, 5, 4000, -3, 11}) {
@@ -813,6 +819,12 @@ public final class PromisesTest {
         due("state after state", x.state(), MusicBoxes.LACKING);
         x.places(0, BENDS);
         due("state", x.state(), 0);
+        refused(x, "quiet", x.quiet(8), MusicBoxes.NONE);
+        granted(x, "heard after a refusal", x.heard(0, 0), 1);
+        refused(x, "comb", x.comb(0, 0, 41, 0), MusicBoxes.SIZE);
+        granted(x, "read after a refusal", x.read(0, BENDS, 0), -2);
+        refused(x, "set", x.set(0, 0, 1, 0), MusicBoxes.BEYOND);
+        granted(x, "write after a refusal", x.write(0, BENDS, 0, 1), 0);
     }
 
     private static void constants() {
