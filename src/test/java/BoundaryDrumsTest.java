@@ -12,6 +12,7 @@ public final class BoundaryDrumsTest {
         turn();
         turnLevels();
         turnLevelsToTheBound();
+        turnLevelsToFullFractions();
         turnLevelsToNothing();
         head();
         playSoMany();
@@ -551,6 +552,23 @@ public final class BoundaryDrumsTest {
             """);
     }
 
+    // 178481 * 47 is 2 to the 23rd less 1, 12291 * 1365 is 2 to the 24th less 1.
+    private static void turnLevelsToFullFractions() {
+        Runs.run("8: LEVELS: 32 bits hold a fraction of 24 bits, all of them 1", """
+            cut(0, 3, 1) = 1
+            write(0, 3, 0, 178481) = 0
+            turn(0, 3, 0, 47) = 0
+            read(0, 3, 0) = f262143.96875
+            turn(0, 3, 0, -2) = 0
+            read(0, 3, 0) = f-131071.984375
+            write(0, 3, 0, 12291) = 0
+            turn(0, 3, 0, 1365) = 0
+            read(0, 3, 0) = f524287.96875
+            turn(0, 3, 0, -1) = 0
+            read(0, 3, 0) = f-131071.9921875
+            """);
+    }
+
     private static void turnLevelsToNothing() {
         Runs.run("8: LEVELS: 0 times as much keeps the sign, as IEEE 754 has it", """
             cut(0, 3, 1) = 1
@@ -1022,14 +1040,19 @@ public final class BoundaryDrumsTest {
             heard(0, {3 4}) = -9
             heard(0, 5) = f-1
             """);
-        Runs.run("12: of that drum alone, though the TRACK is the very same", """
+        Runs.run("12: of that drum alone, though the TRACK is the very same: the first, and the last", """
             cut(0, 1, 3) = 3
-            share(0, 1, 1) = 3
-            play({0 1}, 20) = 3
+            share(0, {1 7}, 1) = 3
+            play({0 1 7}, 20) = 3
             quiet(0) = 3
-            heard(0, 0) = 0
+            heard(0, {0..5}) = 0
+            heard({1 7}, {0 1 6}) = 3
+            head(0, 1) = 3
+            play(0, 20) = 2
+            quiet(7) = 3
+            heard(7, {0..5}) = 0
+            heard(0, {0 1}) = 2
             heard(1, {0 1 6}) = 3
-            quiet(1) = 3
             """);
         Runs.run("12: NONE: no such drum", """
             cut({0 7}, 1, 3) = 3
