@@ -19,8 +19,9 @@ import java.util.regex.Pattern;
  * read(0, 1, 300) = BEYOND      # a refusal, by its name
  * </pre>
  *
- * Behind each row state() is asked too: it tells the refusal that is due, or 0. And behind each refusal the whole
- * object is looked at beside one on which the refused call was never made: every answer must be the same.
+ * Behind each row state() is asked too: it tells the refusal that is due, or 0. And behind each refusal the object
+ * is looked at beside one on which the refused call was never made: every answer must be the same. That look is a
+ * sample: nine places of a drum's track, two of a tooth, and who shares a track by PLACE 0 and the first three teeth.
  */
 final class Runs {
     // Each row is two calls with its state(), and an object is good for 512.
@@ -203,7 +204,7 @@ final class Runs {
         }
     }
 
-    /** All that can be seen of an object after these rows; each look on an object of its own, for its 512 calls. */
+    /** What the looks below see after these rows; each on an object of its own, for its 512 calls. */
     private static List<Long> lookAfter(List<Row> rows) {
         List<Long> seen = new ArrayList<>();
         for (int drum = 0; drum < 8; drum++) {
