@@ -90,6 +90,12 @@ public final class LanguageTest {
             demand(open || Modifier.isPrivate(m.getModifiers()), m.getName() + " is public or private");
             demand(open || !names.contains(m.getName()), m.getName() + " bears no public name");
         }
+        for (Class<?> inside : MusicBoxes.class.getDeclaredClasses()) {
+            for (Method m : inside.getDeclaredMethods()) {
+                demand(!names.contains(m.getName()), inside.getName() + "'s " + m.getName() + " bears no public name");
+                demand(m.getParameterCount() <= 7, m.getName() + " takes at most seven parameters");
+            }
+        }
         for (Field f : MusicBoxes.class.getDeclaredFields()) {
             boolean open = Modifier.isPublic(f.getModifiers());
             demand(open || Modifier.isPrivate(f.getModifiers()), f.getName() + " is public or private");
