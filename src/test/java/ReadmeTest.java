@@ -17,7 +17,7 @@ import java.util.regex.Pattern;
 import java.util.stream.Collectors;
 import java.util.stream.Stream;
 
-/** What README.md says of the class is so: its example's answers, its tables, its commands. */
+/** What README.md says is so, where a program can tell: answers, arguments, refusals, commands; not its words. */
 public final class ReadmeTest {
     private static final String[] REFUSALS = {"NONE", "LACKING", "BEYOND", "SIZE", "BOUND"};
     private static final Pattern EXAMPLE_ROW = Pattern.compile("boxes\\.(\\w+)\\(([^)]*)\\); *// (-?\\w+)\\b.*");
